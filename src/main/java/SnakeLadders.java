@@ -1005,7 +1005,7 @@ public final class SnakeLadders {
         int fewest(Board now, int i) {
             board.copy(now);
             for (int n = 0; n <= MOST_DEPTH; n++) {
-                if (findRow(i, 0, n)) {
+                if (findRow(this, i, 0, n)) {
                     return n;
                 }
             }
@@ -1016,18 +1016,19 @@ public final class SnakeLadders {
             return within(k, 0, MOST_DEPTH - 1) ? row[k] : NONE;
         }
 
-        private boolean findRow(int i, int depth, int n) {
-            if (board.isHome(i)) {
+        // What calls itself is static, as rule 8 of LANGUAGE.md has it, so the Outlook is told to it.
+        private static boolean findRow(Outlook o, int i, int depth, int n) {
+            if (o.board.isHome(i)) {
                 return depth == n;
             }
             if (depth >= n || depth >= MOST_DEPTH) {
                 return false;
             }
-            for (int r = 1; r <= board.sides; r++) {
-                row[depth] = r;
-                board.move(i, r, steps[depth]);
-                boolean found = findRow(i, depth + 1, n);
-                board.takeBack(steps[depth]);
+            for (int r = 1; r <= o.board.sides; r++) {
+                o.row[depth] = r;
+                o.board.move(i, r, o.steps[depth]);
+                boolean found = findRow(o, i, depth + 1, n);
+                o.board.takeBack(o.steps[depth]);
                 if (found) {
                     return true;
                 }
@@ -1119,22 +1120,22 @@ public final class SnakeLadders {
             if (n <= 0 || board.isHome(i)) {
                 addRows(p, n);
             } else {
-                spreadOn(i, 0, n);
+                spreadOn(this, i, 0, n);
             }
         }
 
-        private void spreadOn(int i, int depth, int n) {
+        private static void spreadOn(Outlook o, int i, int depth, int n) {
             if (depth >= MOST_DEPTH) {
                 return;
             }
-            for (int r = 1; r <= board.sides; r++) {
-                int p = board.landing(i, r);
-                if (depth + 1 >= n || p == board.length) {
-                    addRows(p, n - depth - 1);
+            for (int r = 1; r <= o.board.sides; r++) {
+                int p = o.board.landing(i, r);
+                if (depth + 1 >= n || p == o.board.length) {
+                    o.addRows(p, n - depth - 1);
                 } else {
-                    board.move(i, r, steps[depth]);
-                    spreadOn(i, depth + 1, n);
-                    board.takeBack(steps[depth]);
+                    o.board.move(i, r, o.steps[depth]);
+                    spreadOn(o, i, depth + 1, n);
+                    o.board.takeBack(o.steps[depth]);
                 }
             }
         }
@@ -1148,22 +1149,22 @@ public final class SnakeLadders {
 
         int rowsAhead(Board now, int a, int b, int n) {
             board.copy(now);
-            return rowsAheadOn(a, b, 0, 2 * n);
+            return rowsAheadOn(this, a, b, 0, 2 * n);
         }
 
-        private int rowsAheadOn(int a, int b, int turn, int turns) {
+        private static int rowsAheadOn(Outlook o, int a, int b, int turn, int turns) {
             if (turn >= turns || turn >= MOST_DEPTH) {
-                return board.square[a] > board.square[b] ? 1 : 0;
+                return o.board.square[a] > o.board.square[b] ? 1 : 0;
             }
             int i = turn % 2 == 0 ? a : b;
-            if (board.isHome(i)) {
-                return board.sides * rowsAheadOn(a, b, turn + 1, turns);
+            if (o.board.isHome(i)) {
+                return o.board.sides * rowsAheadOn(o, a, b, turn + 1, turns);
             }
             int rows = 0;
-            for (int r = 1; r <= board.sides; r++) {
-                board.move(i, r, steps[turn]);
-                rows += rowsAheadOn(a, b, turn + 1, turns);
-                board.takeBack(steps[turn]);
+            for (int r = 1; r <= o.board.sides; r++) {
+                o.board.move(i, r, o.steps[turn]);
+                rows += rowsAheadOn(o, a, b, turn + 1, turns);
+                o.board.takeBack(o.steps[turn]);
             }
             return rows;
         }

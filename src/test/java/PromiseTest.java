@@ -267,6 +267,9 @@ public final class PromiseTest {
         fault("board", 5);
         fault("boar", 0);
         fault("boards 10 6;", 0);
+        fault("coard 10 6;", 0);
+        fault("boarb 10 6;", 0);
+        fault("b 10 6;", 0);
         fault("Board 10 6;", 0);
         fault("bOard 10 6;", 0);
         fault(" player 0;", 1);
@@ -579,6 +582,9 @@ public final class PromiseTest {
         check.badByTen("few(0, -2)", x, () -> x.few(0, -2));
         check.badByTen("few(1, NONE)", x, () -> x.few(1, NONE));
         check.badByTen("few(-1, 0)", x, () -> x.few(-1, 0));
+        x.sets(0, 19);
+        check.asked("few, one throw", x, () -> x.few(0, NONE), 1);
+        check.asked("few, one throw of 1", x, () -> x.few(0, 0), 1);
         x.sets(0, 20);
         check.asked("few, HOME", x, () -> x.few(0, NONE), 0);
         check.asked("few, HOME, the 0th", x, () -> x.few(0, 0), -5);
@@ -661,6 +667,12 @@ public final class PromiseTest {
         x.link(4, 2, 9);
         // 1 + 11 + 3 + 4 + 5 + 6
         check.fraction("mean(0, 1), generous", x, x.mean(0, 1), 5, 1);
+        SnakeLadders y = on(40, 2, 4);
+        y.sets(0, 39);
+        check.fraction("mean, all on 40", y, y.mean(0, 2), 40, 1);
+        check.asked("span, all on 40", y, () -> y.span(0, 2, 0), 1);
+        check.asked("span, all on 40, least", y, () -> y.span(0, 2, 1), 40);
+        check.asked("span, all on 40, greatest", y, () -> y.span(0, 2, 2), 40);
         check.bad("mean(0, 6)", x, () -> x.mean(0, 6));
         check.bad("mean(0, -1)", x, () -> x.mean(0, -1));
         check.bad("mean(1, 1)", x, () -> x.mean(1, 1));
@@ -686,6 +698,8 @@ public final class PromiseTest {
         y.rolls(1, 1);
         y.sets(1, 0);
         check.fraction("ahead, broken before", y, y.ahead(0, 1, 1), 1, 4);
+        // a b a b, two sides: 11 22 12 21 each; 5 by 16 a is ahead, 6 alike
+        check.fraction("ahead, two throws", y, y.ahead(0, 1, 2), 5, 16);
         check.bad("ahead(0, 0, 1)", y, () -> y.ahead(0, 0, 1));
         check.bad("ahead(0, 2, 1)", y, () -> y.ahead(0, 2, 1));
         check.bad("ahead(-1, 0, 1)", y, () -> y.ahead(-1, 0, 1));
@@ -710,6 +724,12 @@ public final class PromiseTest {
         // from 0 .. 4 two throws of 1 .. 6 lead HOME, but from 4 by 1, 2
         check.asked("rather, two ladders", y, () -> y.rather(0, 1, 0), 4);
         check.asked("rather, two ladders: rows", y, () -> y.rather(0, 1, 1), 2);
+        SnakeLadders far = on(20, 6, 0);
+        for (int a = 1; a <= 6; a++) {
+            far.link(0, a, 20);
+        }
+        check.asked("rather, at the start", far, () -> far.rather(0, 1, 0), 0);
+        check.asked("rather, at the start: rows", far, () -> far.rather(0, 1, 1), 6);
         SnakeLadders z = on(20, 6, 4, 0);
         check.asked("rather, lucky", z, () -> z.rather(0, 1, 1), 6);
         check.asked("rather, lucky: where", z, () -> z.rather(0, 1, 0), 19);
@@ -806,6 +826,7 @@ public final class PromiseTest {
         check.due("is: 0 6 to 10", isBy(0, 6, 10), 0b010000);
         check.due("is: 0 1 to 4, 2 1 to 4", isBy(0, 1, 4, 2, 1, 4), 0b000011);
         check.due("is: 0 1 to 40", isBy(0, 1, 40), 0);
+        check.due("is: 0 1 to 0", isBy(0, 1, 0), 0);
         SnakeLadders x = on(20, 2);
         x.link(0, 10, 4);
         check.bad("note(1, 0, 1, 4)", x, () -> x.note(1, 0, 1, 4));
@@ -875,6 +896,7 @@ public final class PromiseTest {
         check.due("kinds: 20 1 to 19", kindsBy(20, 1, 19), 0b000010);
         check.due("kinds: 40 6 to 40", kindsBy(40, 6, 40), 0b101101);
         check.due("kinds: 40 6 to 20", kindsBy(40, 6, 20), 0b010000);
+        check.due("kinds: 0 1 to 0", kindsBy(0, 1, 0), 0);
         check.due("kinds: two marks", kindsBy(0, 1, 1, 0, 6, 6), 0b000011);
         SnakeLadders x = on(20, 2, 0);
         check.bad("mark(1, 0, 1, 1)", x, () -> x.mark(1, 0, 1, 1));
@@ -1051,6 +1073,44 @@ public final class PromiseTest {
         check.due("from(0): L", x.count(0), 40);
         check.due("from(0): kind", x.of(0, 0), 3);
         check.due("status of all", x.status(0) * 100 + x.status(1) * 10 + x.status(2), 420);
+        imagesKeepWhatMayBeUndone();
+    }
+
+    private static void imagesKeepWhatMayBeUndone() {
+        SnakeLadders x = on(20, 6, 0, 0, 0);
+        x.link(0, 3, 9);
+        x.link(0, 5, 11);
+        x.rolls(1, 5);
+        x.rolls(2, 3);
+        x.sets(2, 1);
+        x.note(1, 2, 3, 4);
+        x.mark(2, 4, 6, 8);
+        long state = x.digest();
+        x.image(0);
+        x.undo();
+        x.undo();
+        x.undo();
+        // other moves, notes and marks in the same places as those of the image
+        x.sets(0, 7);
+        x.rolls(0, 1);
+        x.rolls(2, 5);
+        x.forget(0);
+        x.forget(1);
+        x.note(0, 0, 1, 0);
+        x.mark(0, 0, 1, 0);
+        check.due("from(0) behind other moves", x.from(0), 1);
+        check.due("from(0): all as it was", x.digest(), state);
+        int[][] due = {{11, 9, 1, 1}, {11, 0, 0, 1}, {0, 0, 0, 0}};
+        for (int n = 0; n < due.length; n++) {
+            x.undo();
+            check.due("undo of an image: player 1", x.of(1, 1), due[n][0]);
+            check.due("undo of an image: player 2", x.of(2, 1), due[n][1]);
+            check.due("undo of an image: throws", x.of(2, 2), due[n][2]);
+            check.due("undo of an image: used", x.about(0, 3), due[n][2]);
+            check.due("undo of an image: used", x.about(1, 3), due[n][3]);
+        }
+        check.due("undo of an image: player 0", x.of(0, 1), 0);
+        check.no("undo of an image: no more", x, x::undo);
     }
 
     // ---- promise 34
