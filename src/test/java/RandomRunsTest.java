@@ -4,12 +4,12 @@ import java.util.Random;
 
 /** Runs of calls by seeds, told to the class and to the Model: every answer must be the same. */
 public final class RandomRunsTest {
-    private static final int RUNS = 600;
+    private static final int RUNS = 4000;
     private static final int CALLS = 512;
     private static final int[] WILD = {Integer.MIN_VALUE, Integer.MAX_VALUE, -1, -2, -3, -10, 7, 41, 99, 128, 1000000};
     private static final String[] STEPS = {"rolls", "rolls", "rolls", "rolls", "rolls", "sets", "sets", "undo", "undo",
         "goes", "of", "about", "count", "status", "digest", "part"};
-    private static final String[] BUILDS = {"link", "link", "link", "player", "player", "die", "board", "image", "from"};
+    private static final String[] BUILDS = {"link", "link", "player", "die", "image", "image", "from", "from", "board"};
     private static final String[] ASKS = {"few", "few", "home", "mean", "ahead", "without", "span", "choice", "choice",
         "evenings", "rather"};
     private static final String[] SIGHTS = {"note", "note", "note", "mark", "mark", "mark", "forget", "is", "look",
@@ -42,17 +42,20 @@ public final class RandomRunsTest {
 
     private void go(long seed) {
         build();
+        while (seed % 5 == 0 && told.size() < CALLS && !wrong) {
+            text();
+        }
         while (told.size() < CALLS && !wrong) {
-            int pick = random.nextInt(100);
-            if (pick < 55) {
+            int pick = random.nextInt(1000);
+            if (pick < 600) {
                 tell(one(STEPS));
-            } else if (pick < 63) {
+            } else if (pick < 640) {
                 tell(one(BUILDS));
-            } else if (pick < 66) {
+            } else if (pick < 642) {
                 text();
-            } else if (pick < 80) {
+            } else if (pick < 800) {
                 tell(one(ASKS));
-            } else if (pick < 97) {
+            } else if (pick < 995) {
                 tell(one(SIGHTS));
             } else {
                 build();
@@ -76,7 +79,7 @@ public final class RandomRunsTest {
         for (int n = random.nextInt(9); n > 0; n--) {
             tell("link");
         }
-        for (int n = random.nextInt(6); n > 0; n--) {
+        for (int n = random.nextInt(8) == 0 ? 0 : 1 + random.nextInt(5); n > 0; n--) {
             tell("player");
         }
     }
@@ -133,7 +136,7 @@ public final class RandomRunsTest {
             case "few": return new int[] {player(), random.nextInt(9) - 2};
             case "home":
             case "mean": return new int[] {player(), throwsUpTo(5)};
-            case "ahead": return new int[] {player(), player(), upTo(2)};
+            case "ahead": return withPair(upTo(2));
             case "rather": return new int[] {player(), random.nextInt(12) == 0 ? upTo(4) : upTo(2), upTo(1)};
             case "without": return new int[] {player(), throwsUpTo(4), upTo(1)};
             case "span": return new int[] {player(), throwsUpTo(4), upTo(2)};
@@ -147,12 +150,18 @@ public final class RandomRunsTest {
             case "look": return new int[] {linkNumber()};
             case "kinds":
             case "ask": return new int[] {player()};
-            case "choice": return new int[] {player(), player(), random.nextInt(7) - 2};
+            case "choice": return withPair(random.nextInt(8) - 2);
             case "evenings": return new int[] {upTo(999999), upTo(60)};
             case "status": return new int[] {upTo(2)};
             case "count": return new int[] {upTo(10)};
             default: return new int[0];
         }
+    }
+
+    private int[] withPair(int last) {
+        int a = player();
+        int b = random.nextInt(8) == 0 ? player() : (a + 1) % Math.max(2, real.count(3));
+        return random.nextBoolean() ? new int[] {a, b, last} : new int[] {b, a, last};
     }
 
     /** Mostly what some kind would lead to, so that kinds stay. */
