@@ -61,6 +61,16 @@ final class Check {
         due(call + ", then part(1)", x.part(1), below);
     }
 
+    boolean looked() {
+        return right + wrong > 0;
+    }
+
+    /** The answers of another test count as this one's. */
+    void take(Check other) {
+        right += other.right;
+        wrong += other.wrong;
+    }
+
     void end() {
         System.out.println(test + ": " + right + " answers right, " + wrong + " wrong");
         System.exit(wrong == 0 ? 0 : 1);
