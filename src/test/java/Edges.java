@@ -187,6 +187,24 @@ final class Edges {
         refused(check, start, call, made, want, -1);
     }
 
+    // ---- counts
+
+    /** What count(0), count(1), .. answer. */
+    static void counts(Check check, SnakeLadders x, int... due) {
+        for (int what = 0; what < due.length; what++) {
+            check.due("count(" + what + ")", x.count(what), due[what]);
+        }
+    }
+
+    /** All counts are those of another one, but for one that may be another. */
+    static void countsStay(Check check, SnakeLadders x, SnakeLadders twin, int but) {
+        for (int what = 0; what <= 10; what++) {
+            if (what != but) {
+                check.due("count(" + what + ")", x.count(what), twin.count(what));
+            }
+        }
+    }
+
     // ---- bounds
 
     /** The first and the last number are taken; those beside them, and those far off, are not (# is the number). */

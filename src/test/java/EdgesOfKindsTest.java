@@ -58,9 +58,7 @@ public final class EdgesOfKindsTest {
         SnakeLadders x = Edges.lively();
         SnakeLadders twin = Edges.lively();
         x.note(0, 9, 6, 40);
-        for (int what : new int[] {0, 1, 2, 3, 4, 5, 6, 8, 9, 10}) {
-            check.due("count(" + what + ")", x.count(what), twin.count(what));
-        }
+        Edges.countsStay(check, x, twin, 7);
         check.due("about(0, 3)", x.about(0, 3), twin.about(0, 3));
     }
 
@@ -104,9 +102,7 @@ public final class EdgesOfKindsTest {
         SnakeLadders x = Edges.lively();
         SnakeLadders twin = Edges.lively();
         x.mark(0, 40, 6, 40);
-        for (int what : new int[] {0, 1, 2, 3, 4, 5, 6, 7, 9, 10}) {
-            check.due("count(" + what + ")", x.count(what), twin.count(what));
-        }
+        Edges.countsStay(check, x, twin, 8);
         check.due("of(0, 1)", x.of(0, 1), twin.of(0, 1));
     }
 
@@ -243,6 +239,16 @@ public final class EdgesOfKindsTest {
         y.link(PLAIN, 8, 7);
         // used 1, by 1: 7 8 6 8 8 6 (three); by 2: 7 8 6 8 9 6 (two)
         check.asked("used 1, by 2", y, () -> y.look(0), 12);
+        SnakeLadders z = Edges.on(10, 6);
+        z.link(PLAIN, 1, 0);
+        z.note(0, 1, 1, 1);
+        check.due("sleepy, broken or generous", z.is(0), 0b011010);
+        // used 2, by 1: 0 1 1; by 2: 0 1 2
+        check.asked("used 2, by 2", z, () -> z.look(0), 22);
+        SnakeLadders w = Edges.on(10, 6);
+        w.link(PLAIN, 9, 10);
+        // used 0: 10 10 9 10 10 . (four); used 1, by 1, 2: 10 9 9 9 10 9 (four); by 3: 10 9 9 9 10 8 (three)
+        check.asked("used 1, by 3", w, () -> w.look(0), 13);
     }
 
     @Says("of like ones the least")
@@ -446,6 +452,14 @@ public final class EdgesOfKindsTest {
         // a first, who breaks it: 11: 8 -3, 12: 11 0, 21: 0 11, 22: -3 -3
         check.asked("broken under a: how many", z, () -> z.choice(0, 1, NONE), 1);
         check.asked("broken under a", z, () -> z.choice(0, 1, 0), 12);
+        SnakeLadders w = Edges.on(10, 2, PLAIN, PLAIN);
+        w.link(BROKEN, 5, 10);
+        w.sets(0, 3);
+        w.sets(1, 4);
+        // a by 2 and b by 1 come to it: 11: -3 8, 12: 0 1, 21: 11 0, 22: 8 -3
+        check.asked("broken ahead of b: how many", w, () -> w.choice(0, 1, NONE), 1);
+        check.asked("broken ahead of b", w, () -> w.choice(0, 1, 0), 21);
+        check.due("used", w.about(0, 3), 0);
     }
 
     @Says("BAD: -10: alike a, b, too.")
@@ -507,6 +521,42 @@ public final class EdgesOfKindsTest {
         }
         check.asked("all are HOME", z, () -> z.evenings(7, 60), 4);
         check.asked("all are HOME, none", z, () -> z.evenings(7, 0), 4);
+    }
+
+    @Says("if there and not HOME")
+    static void promise30_oneWhoIsNotThereUsesNoLink(Check check) {
+        // seed 63: 1 by 3, then 0 by 3; seed 43: 3 by 5, then 0 by 5
+        int[][] due = {{63, 3, 1}, {43, 5, 3}};
+        for (int[] one : due) {
+            SnakeLadders x = Edges.on(20, 6, PLAIN);
+            x.link(BROKEN, one[1], 20);
+            check.asked("seed " + one[0] + ", one player", x, () -> x.evenings(one[0], 2), 1);
+            check.asked("seed " + one[0] + ", the first throw alone", x, () -> x.evenings(one[0], 1), 0);
+            for (int i = 1; i < one[2]; i++) {
+                x.player(PLAIN);
+            }
+            check.asked("seed " + one[0] + ", not he", x, () -> x.evenings(one[0], 2), 1);
+            x.player(PLAIN);
+            check.asked("seed " + one[0] + ", he breaks it, HOME himself", x, () -> x.evenings(one[0], 2), 1);
+            x.sets(one[2], 1);
+            check.asked("seed " + one[0] + ", he is elsewhere", x, () -> x.evenings(one[0], 2), 1);
+            x.sets(one[2], 20);
+            check.asked("seed " + one[0] + ", he is HOME already", x, () -> x.evenings(one[0], 2), 2);
+        }
+    }
+
+    @Says("throws X by 1048576 (cut), by D left over, and 1")
+    static void promise30_cutAtItsEdges(Check check) {
+        // X is 1723 times 1048576 and 1238, 812 times and 567 (a divisor of one more would give one less);
+        // 1629 times and 1047180, 1948 times and 1048472 (a divisor of one less would give one more)
+        int[][] due = {{241, 0, 2}, {822, 0, 3}, {959, 3, 4}, {1403, 3, 5}};
+        for (int[] one : due) {
+            for (int r = 1; r <= 6; r++) {
+                SnakeLadders x = Edges.on(10, 6, 0, 0, 0, 0);
+                x.sets(one[1], 10 - r);
+                check.asked("seed " + one[0] + ", by " + r, x, () -> x.evenings(one[0], 1), r == one[2] ? 1 : 0);
+            }
+        }
     }
 
     @Says("throws X by 1048576 (cut), by D left over, and 1")

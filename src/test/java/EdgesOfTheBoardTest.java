@@ -11,10 +11,7 @@ public final class EdgesOfTheBoardTest {
     @Says({"As told; nobody plays.", "20 at first", "6 at first"})
     static void promise01_twentySquaresSixSidesAndNothingElse(Check check) {
         SnakeLadders x = new SnakeLadders();
-        int[] first = {20, 6, 0, 0, 0, 0, 0, 0, 0, 0, 0};
-        for (int what = 0; what < first.length; what++) {
-            check.due("count(" + what + ")", x.count(what), first[what]);
-        }
+        Edges.counts(check, x, 20, 6, 0, 0, 0, 0, 0, 0, 0, 0, 0);
     }
 
     @Says("THE FRACTION is 0 by 1 at first")
@@ -129,10 +126,7 @@ public final class EdgesOfTheBoardTest {
     static void promise02_allElseIsAsAtFirst(Check check) {
         SnakeLadders x = Edges.crowded();
         x.board(40, 6);
-        int[] then = {40, 6, 0, 0, 0, 0, 0, 0, 0, 0, 150};
-        for (int what = 0; what < then.length; what++) {
-            check.due("count(" + what + ")", x.count(what), then[what]);
-        }
+        Edges.counts(check, x, 40, 6, 0, 0, 0, 0, 0, 0, 0, 0, 150);
         check.no("undo()", x, x::undo);
         check.due("player(4)", x.player(4), 0);
         check.due("his square", x.of(0, 1), 0);

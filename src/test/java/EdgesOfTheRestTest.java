@@ -114,6 +114,67 @@ public final class EdgesOfTheRestTest {
         }
     }
 
+    @Says("what may be undone they keep")
+    static void promise32_otherMovesNotesAndMarksDoNotReachIt(Check check) {
+        SnakeLadders x = Edges.on(20, 6, 0, 0, 0);
+        x.link(0, 3, 9);
+        x.link(0, 5, 11);
+        x.rolls(1, 5);
+        x.rolls(1, 1);
+        x.rolls(2, 3);
+        x.note(1, 2, 3, 4);
+        x.mark(2, 4, 6, 8);
+        long state = x.digest();
+        x.image(0);
+        for (int n = 0; n < 3; n++) {
+            x.undo();
+        }
+        x.forget(0);
+        x.forget(1);
+        // as many others, in the places of those that were kept
+        x.rolls(0, 3);
+        x.rolls(0, 2);
+        x.rolls(0, 1);
+        x.note(0, 9, 6, 40);
+        x.mark(0, 40, 5, 39);
+        x.from(0);
+        check.due("from(0)", x.digest(), state);
+        int[][] due = {{12, 0, 2, 0, 1}, {11, 0, 1, 0, 1}, {0, 0, 0, 0, 0}};
+        for (int[] one : due) {
+            x.undo();
+            check.due("of(1, 1)", x.of(1, 1), one[0]);
+            check.due("of(2, 1)", x.of(2, 1), one[1]);
+            check.due("of(1, 2)", x.of(1, 2), one[2]);
+            check.due("about(0, 3)", x.about(0, 3), one[3]);
+            check.due("about(1, 3)", x.about(1, 3), one[4]);
+            check.due("of(0, 1)", x.of(0, 1), 0);
+            check.due("of(2, 2)", x.of(2, 2), 0);
+        }
+    }
+
+    @Says("USED as ahead of the last THROW")
+    static void promise32_usesThatMayBeUndoneAreKept(Check check) {
+        SnakeLadders x = Edges.on(20, 6, 0);
+        x.link(0, 3, 0);
+        for (int n = 0; n < 5; n++) {
+            x.rolls(0, 3);
+        }
+        x.image(1);
+        x.board(20, 6);
+        x.player(0);
+        x.link(0, 3, 0);
+        for (int n = 0; n < 5; n++) {
+            x.rolls(0, 3);
+            x.rolls(0, 3);
+        }
+        x.from(1);
+        for (int left = 4; left >= 0; left--) {
+            x.undo();
+            check.due("used", x.about(0, 3), left);
+            check.due("throws", x.of(0, 2), left);
+        }
+    }
+
     @Says("It goes on from an IMAGE: 1. BAD; NO: none was kept.")
     static void promise33_imagesNoughtAndOne(Check check) {
         Edges.bounds(check, Edges::crowded, "from(#)", 0, 1, (x, i) -> x.from(i), i -> 1);

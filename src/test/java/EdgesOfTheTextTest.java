@@ -58,9 +58,7 @@ public final class EdgesOfTheTextTest {
         SnakeLadders x = Edges.lively();
         SnakeLadders twin = Edges.lively();
         x.type(' ');
-        for (int what = 0; what < 10; what++) {
-            check.due("count(" + what + ")", x.count(what), twin.count(what));
-        }
+        Edges.countsStay(check, x, twin, 10);
         check.due("undo()", x.undo(), twin.undo());
         check.due("undone", x.of(0, 1), twin.of(0, 1));
     }
@@ -95,9 +93,7 @@ public final class EdgesOfTheTextTest {
         SnakeLadders x = Edges.lively();
         SnakeLadders twin = Edges.lively();
         x.clear();
-        for (int what = 0; what < 10; what++) {
-            check.due("count(" + what + ")", x.count(what), twin.count(what));
-        }
+        Edges.countsStay(check, x, twin, 10);
         check.due("undo()", x.undo(), twin.undo());
         check.due("undone", x.of(0, 1), twin.of(0, 1));
     }
@@ -225,10 +221,7 @@ public final class EdgesOfTheTextTest {
     static void promise08_takesThePlaceOfAll(Check check) {
         SnakeLadders x = Edges.crowded();
         check.due("read()", x.read(), 3);
-        int[] then = {10, 2, 0, 1, 0, 3, 0, 0, 0, 0, 150};
-        for (int what = 0; what < then.length; what++) {
-            check.due("count(" + what + ")", x.count(what), then[what]);
-        }
+        Edges.counts(check, x, 10, 2, 0, 1, 0, 3, 0, 0, 0, 0, 150);
         check.due("link(0, 1, 2), where one was", x.link(0, 1, 2), 0);
         check.due("its uses", x.about(0, 3), 0);
         check.due("player(0)", x.player(0), 1);

@@ -330,6 +330,20 @@ public final class EdgesOfWhereTest {
         }
     }
 
+    @Says("(Nothing is changed by these;")
+    static void promise19_oneQuestionDoesNotReachTheNext(Check check) {
+        SnakeLadders x = at(20, 6, PLAIN, 3);
+        check.due("rather(0, 4, 1)", x.rather(0, 4, 1), 671);
+        check.due("without(0, 1, 0), no links", x.without(0, 1, 0), NONE);
+        check.due("rather(0, 1, 1)", x.rather(0, 1, 1), 1);
+        check.due("without(0, 1, 1), no links", x.without(0, 1, 1), NONE);
+        x.link(PLAIN, 19, 1);
+        check.due("rather(0, 4, 0)", x.rather(0, 4, 0), 19);
+        check.due("without(0, 1, 0)", x.without(0, 1, 0), 0);
+        check.due("without(0, 1, 1)", x.without(0, 1, 1), 0);
+        check.due("rather(0, 1, 0)", x.rather(0, 1, 0), 19);
+    }
+
     // ---- promise 20
 
     private static SnakeLadders withLinks() {
@@ -409,6 +423,19 @@ public final class EdgesOfWhereTest {
         Edges.bounds(check, () -> at(40, 6, PLAIN, 3), "span(0, #, 2)", 0, 4, (x, n) -> x.span(0, n, 2), n -> 6 * n + 3);
         Edges.bounds(check, () -> at(40, 6, PLAIN, 3), "span(0, 1, #)", 0, 2, (x, w) -> x.span(0, 1, w), w -> w == 0 ? 6 : 9);
         Edges.bounds(check, Edges::crowded, "span(#, 0, 0)", 0, 3, (x, i) -> x.span(i, 0, 0), i -> 1);
+    }
+
+    @Says("the least; the greatest of these")
+    static void promise21_noughtMayBeTheGreatest(Check check) {
+        SnakeLadders x = at(40, 2, PLAIN, 0);
+        check.asked("no throw: how many", x, () -> x.span(0, 0, 0), 1);
+        check.asked("no throw: the least", x, () -> x.span(0, 0, 1), 0);
+        check.asked("no throw: the greatest", x, () -> x.span(0, 0, 2), 0);
+        x.link(PLAIN, 1, 0);
+        x.link(PLAIN, 2, 0);
+        check.asked("led back always: how many", x, () -> x.span(0, 4, 0), 1);
+        check.asked("led back always: the least", x, () -> x.span(0, 4, 1), 0);
+        check.asked("led back always: the greatest", x, () -> x.span(0, 4, 2), 0);
     }
 
     @Says("on how many unlike SQUARES one may be behind n throws; the least; the greatest of these")
