@@ -188,6 +188,8 @@ public final class EdgesOfTheRestTest {
         SnakeLadders x = new SnakeLadders();
         x.image(1);
         check.no("from(0), only 1 was kept", x, () -> x.from(0));
+        Edges.bad(check, SnakeLadders::new, "from(2), none was kept", y -> y.from(2));
+        Edges.bad(check, SnakeLadders::new, "from(-1), none was kept", y -> y.from(-1));
         check.due("from(1)", x.from(1), 1);
     }
 
