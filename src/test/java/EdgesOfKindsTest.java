@@ -168,7 +168,7 @@ public final class EdgesOfKindsTest {
         check.asked("from " + a + " to " + b + ", used " + u + ", by " + r + " to " + x, game, () -> game.is(0), due);
     }
 
-    @Says("KINDS (bits) by which, its FROM and TO, L as they are, all NOTES of one are so.")
+    @Says("IS: KINDS (bits) by which, its FROM and TO, L as they are, all NOTES of one are so.")
     static void promise25_eachKindAtItsEdges(Check check) {
         // nobody is below 0: greased and oiled lead to 0 from 0 and 1
         is(check, 5, 0, 0, 6, 0, 0b101111);
@@ -229,7 +229,7 @@ public final class EdgesOfKindsTest {
         check.asked("look(1), one kind: the least of all", x, () -> x.look(1), 1);
     }
 
-    @Says("10 u and r (u 0 .. 3, r 1 .. 6) by which the most of these KINDS that lead alike are fewest")
+    @Says("LOOK: 10 u and r (u 0 .. 3, r 1 .. 6) by which the most of these KINDS that lead alike are fewest")
     static void promise26_whereTheMostAreFewest(Check check) {
         SnakeLadders x = Edges.on(12, 6);
         x.link(PLAIN, 4, 5);
@@ -286,7 +286,7 @@ public final class EdgesOfKindsTest {
         check.asked("from " + p + " by " + r + " to " + x, game, () -> game.kinds(0), due);
     }
 
-    @Says("KINDS (bits) of PLAYERS by which, L as it is, all MARKS of one are so.")
+    @Says("WHAT: KINDS (bits) of PLAYERS by which, L as it is, all MARKS of one are so.")
     static void promise27_eachKindAtItsEdges(Check check) {
         kinds(check, 14, 6, 20, 0b011011);
         kinds(check, 15, 6, 20, 0b010000);
@@ -343,7 +343,7 @@ public final class EdgesOfKindsTest {
         Edges.bad(check, SnakeLadders::new, "ask(0)", x -> x.ask(0));
     }
 
-    @Says("100 p and r (p 0 .. L less 1, r 1 .. 6) by which the most of these KINDS that go alike are fewest")
+    @Says("ASK: 100 p and r (p 0 .. L less 1, r 1 .. 6) by which the most of these KINDS that go alike are fewest")
     static void promise28_whereTheMostAreFewest(Check check) {
         for (int l = 10; l <= 40; l += 10) {
             SnakeLadders x = Edges.on(l, 2, PLAIN);
@@ -383,7 +383,7 @@ public final class EdgesOfKindsTest {
 
     // ---- promise 29
 
-    @Says("CHOICE: how many (k = NONE), the k-th.")
+    @Says({"CHOICE: how many (k = NONE), the k-th.", "how many; the k-th (rising)."})
     static void promise29_theFirstAndTheLastPair(Check check) {
         int[] pairs = {16, 26, 36, 46, 56, 61, 62, 63, 64, 65};
         SnakeLadders x = Edges.on(40, 6, PLAIN, PLAIN);
@@ -415,7 +415,7 @@ public final class EdgesOfKindsTest {
         check.asked("the first", x, () -> x.choice(0, 1, 0), -5);
     }
 
-    @Says("two unlike PLAYERS a, b name throws i, j (1 .. D)")
+    @Says("CHOICE: two unlike PLAYERS a, b name throws i, j (1 .. D)")
     static void promise29_asManyPairsAsTheDieHasSides(Check check) {
         SnakeLadders x = Edges.on(20, 2, PLAIN, PLAIN);
         check.asked("of 2 sides: how many", x, () -> x.choice(0, 1, NONE), 2);
@@ -482,14 +482,15 @@ public final class EdgesOfKindsTest {
 
     // ---- promise 30
 
-    @Says("EVENINGS by a SEED (0 .. 999999), n (0 .. 60)")
+    @Says({"EVENINGS by a SEED (0 .. 999999), n (0 .. 60)", "how many are HOME behind them", "EVENINGS. BAD."})
     static void promise30_seedsAndHowMany(Check check) {
         Edges.bounds(check, () -> Edges.on(40, 6, 0, 0, 0, 0), "evenings(#, 60)", 0, 999999, (x, s) -> x.evenings(s, 60), s -> 2);
         Edges.bounds(check, () -> Edges.on(40, 6, 0, 0, 0, 0), "evenings(5, #)", 0, 60, (x, n) -> x.evenings(5, n), n -> n / 30);
         Edges.asked(check, () -> Edges.on(40, 6, 0, 0, 0, 0), "evenings(5, 59)", x -> x.evenings(5, 59), 1);
     }
 
-    @Says("X is SEED at first; n times X becomes X times 1103515245 and 12345, by 2147483648 what is left over")
+    @Says({"X is SEED at first; n times X becomes X times 1103515245 and 12345, by 2147483648 what is left over",
+        "PLAYER X by 65536 (cut), by 4 left over"})
     static void promise30_theFirstThrowOfASeed(Check check) {
         // who and by what, worked out by hand: 0: 0 by 1; 1: 2 by 3; 999999: 0 by 3
         int[][] due = {{0, 0, 1}, {1, 2, 3}, {999999, 0, 3}};

@@ -283,11 +283,12 @@ public final class EdgesOfTheBoardTest {
         check.no("undo()", x, x::undo);
     }
 
-    @Says("USED (0 .. 99; 0 at first)")
+    @Says({"USED (0 .. 99; 0 at first)", "A LINK: its number."})
     static void promise04_itIsAsTold(Check check) {
         SnakeLadders x = Edges.lively();
         x.sets(2, 10);
         int k = x.link(5, 10, 12);
+        check.due("its number", k, 2);
         int[] due = {5, 10, 12, 0};
         for (int what = 0; what < 4; what++) {
             check.due("about(2, " + what + ")", x.about(k, what), due[what]);

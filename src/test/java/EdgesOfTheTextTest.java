@@ -100,7 +100,7 @@ public final class EdgesOfTheTextTest {
 
     // ---- promise 8: what is read
 
-    @Says("THE BOARD is read: how many ITEMS.")
+    @Says({"THE BOARD is read: how many ITEMS.", "of ITEMS, each ended by ;"})
     static void promise08_itemsFromOneToAsManyAsFit(Check check) {
         whole(check, B, 1);
         whole(check, ONE, 2);
@@ -195,7 +195,7 @@ public final class EdgesOfTheTextTest {
         check.due("used", x.about(0, 3), 2);
     }
 
-    @Says("1 or 2 are one number")
+    @Says("TOKENS: words of letters a .. z, figures (1 or 2 are one number), ; ; blanks (32) between.")
     static void promise08_oneFigureOrTwo(Check check) {
         SnakeLadders x = whole(check, "board 20 06;link 05 03 00;player 01;set 00 09;throw 00 02 01;", 5);
         check.due("kind of the link", x.about(0, 0), 5);

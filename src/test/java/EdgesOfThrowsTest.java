@@ -48,7 +48,7 @@ public final class EdgesOfThrowsTest {
 
     // ---- promise 9: the call
 
-    @Says("A THROW r (1 .. D) of a PLAYER not HOME")
+    @Says({"A THROW r (1 .. D) of a PLAYER not HOME", "one goes to the SQUARE told"})
     static void promise09_throwsOneToTheSidesOfTheDie(Check check) {
         for (int d = 2; d <= 6; d++) {
             int sides = d;
@@ -115,7 +115,8 @@ public final class EdgesOfThrowsTest {
 
     // ---- promise 9: kinds of players at the edges
 
-    @Says("0 PLAIN: p and r, but p, if that is beyond L.")
+    @Says({"0 PLAIN: p and r, but p, if that is beyond L.",
+        "KINDS of PLAYERS, each under the one told, say to which SQUARE one goes from p by a throw r"})
     static void promise09_plainStaysIfItIsBeyond(Check check) {
         comes(check, PLAIN, 14, 15, 16, 17, 18, 19, 20);
         comes(check, PLAIN, 15, 16, 17, 18, 19, 20, 15);
@@ -173,7 +174,8 @@ public final class EdgesOfThrowsTest {
 
     // ---- promise 9: links at the edges
 
-    @Says("0 PLAIN: b.")
+    @Says({"0 PLAIN: b.", "and a LINK is FROM there", "KINDS of LINKS, each under the one told, "
+        + "say to which SQUARE one FROM a TO b leads, USED u times before, by a throw r"})
     static void promise09_aPlainLinkLeadsThere(Check check) {
         same(check, PLAIN, 0, 0, 0);
         same(check, PLAIN, L, 0, L);
@@ -394,7 +396,7 @@ public final class EdgesOfThrowsTest {
         check.due("square then", x.of(0, 1), 4);
     }
 
-    @Says("SQUARES of PLAYERS, THROWS, USED as ahead of the last THROW, counter set")
+    @Says("UNDO: SQUARES of PLAYERS, THROWS, USED as ahead of the last THROW, counter set")
     static void promise11_squaresThrowsAndUsesAsAheadOfIt(Check check) {
         SnakeLadders x = Edges.on(L, 6, PLAIN, PLAIN);
         x.link(SLEEPY, 3, 9);

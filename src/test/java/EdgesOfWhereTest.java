@@ -68,7 +68,7 @@ public final class EdgesOfWhereTest {
         Edges.asked(check, () -> at(30, 6, PLAIN, 0), "few(0, 5), five throws", x -> x.few(0, 5), -5);
     }
 
-    @Says("the fewest throws (0 .. 5; any sides told) by which one is HOME")
+    @Says("FEW for a PLAYER: the fewest throws (0 .. 5; any sides told) by which one is HOME: how many")
     static void promise15_noughtToFiveThrows(Check check) {
         Edges.asked(check, () -> at(20, 6, PLAIN, 20), "HOME: few(0, NONE)", x -> x.few(0, NONE), 0);
         Edges.asked(check, () -> at(20, 6, PLAIN, 20), "HOME: few(0, 0)", x -> x.few(0, 0), -5);
@@ -107,7 +107,7 @@ public final class EdgesOfWhereTest {
         Edges.asked(check, Edges::crowded, "few(3, NONE)", x -> x.few(3, NONE), 0);
     }
 
-    @Says("the k-th of the first such row (rising)")
+    @Says("the k-th of the first such row (rising); none.")
     static void promise15_theFirstOfLikeRows(Check check) {
         SnakeLadders x = at(20, 6, PLAIN, 10);
         check.due("from 10: how many", x.few(0, NONE), 2);
@@ -142,7 +142,7 @@ public final class EdgesOfWhereTest {
         Edges.bounds(check, Edges::crowded, "home(#, 1)", 0, 3, (x, i) -> x.home(i, 1), i -> 1);
     }
 
-    @Says("HOME is THE FRACTION: 1. BAD.")
+    @Says({"HOME is THE FRACTION: 1. BAD.", "the chance to be HOME behind n throws of the DIE"})
     static void promise16_fromNoneToAll(Check check) {
         SnakeLadders x = at(10, 2, PLAIN, 0);
         check.fraction("home(0, 0)", x, x.home(0, 0), 0, 1);
@@ -279,7 +279,7 @@ public final class EdgesOfWhereTest {
         Edges.bounds(check, () -> Edges.on(20, 6, 0, 0, 0, 0), "rather(#, 1, 0)", 0, 3, (x, i) -> x.rather(i, 1, 0), i -> 19);
     }
 
-    @Says("the SQUARE (0 .. L less 1) from which most rows of n throws have one HOME")
+    @Says({"the SQUARE (0 .. L less 1) from which most rows of n throws have one HOME", "how many rows."})
     static void promise19_fromNoughtToTheLastButOne(Check check) {
         SnakeLadders x = Edges.on(20, 6, PLAIN);
         for (int a = 1; a <= 6; a++) {
@@ -378,7 +378,7 @@ public final class EdgesOfWhereTest {
         Edges.bad(check, () -> at(10, 6, PLAIN, 8), "without(1, 1, 0)", x -> x.without(1, 1, 0));
     }
 
-    @Says("of like ones the least")
+    @Says({"of like ones the least", "the LINK without which most rows of n throws", "how many rows; none"})
     static void promise20_ofLikeOnesTheLeast(Check check) {
         Edges.asked(check, EdgesOfWhereTest::withLinks, "without(0, 1, 0), all alike", x -> x.without(0, 1, 0), 0);
         Edges.asked(check, EdgesOfWhereTest::withLinks, "without(0, 2, 0), the last", x -> x.without(0, 2, 0), 5);
